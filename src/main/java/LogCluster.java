@@ -79,13 +79,12 @@ public final class LogCluster {
         if (sender.used >= NUMBERS) {
             return NONE;
         }
-        int place = placeFor(key);
+        Request request = new Request(client, sender.used + 1, kind, key, a, b);
+        int place = post(request, sender);
         if (place < 0) {
             return place;
         }
-        Request request = new Request(client, sender.used + 1, kind, key, a, b);
         sender.keep(request);
-        post(place, request, sender);
         return request.number;
     }
 
@@ -94,11 +93,7 @@ public final class LogCluster {
         if (request == null) {
             return NONE;
         }
-        int place = placeFor(request.key);
-        if (place >= 0) {
-            post(place, request, clients[client]);
-        }
-        return place;
+        return post(request, clients[client]);
     }
 
     public int deliver(int place) {
@@ -492,18 +487,18 @@ public final class LogCluster {
         return NONE;
     }
 
-    /** The place for a REQUEST about a KEY, or why there is none. */
-    private int placeFor(int key) {
-        if (keeper.owners[tabletOf(key)] == NONE) {
+    /** A REQUEST comes into the NET, to the OWNER of now: its place, or why there is none. */
+    private int post(Request request, Client sender) {
+        int target = keeper.owners[tabletOf(request.key)];
+        if (target == NONE) {
             return NO_OWNER;
         }
         int place = freePlace();
-        return place == NONE ? NET_FULL : place;
-    }
-
-    private void post(int place, Request request, Client sender) {
-        Server target = storage.servers[keeper.owners[tabletOf(request.key)]];
-        net[place] = new Message(request, sender.leastOpen(), target, null);
+        if (place == NONE) {
+            return NET_FULL;
+        }
+        net[place] = new Message(request, sender.leastOpen(), storage.servers[target], null);
+        return place;
     }
 
     private int messagesInNet() {

@@ -3,7 +3,7 @@ import java.util.Random;
 
 /** Runs of 512 random calls at most: every answer is compared with that of the plain model. */
 public final class RandomRunsTest {
-    private static final int RUNS = 1500;
+    private static final int RUNS = 500;
     private static final int CALLS = 512;
     private static final int THROWN = Integer.MIN_VALUE;
     /** How often things that are rare befell, so that a change of the runs that loses one is seen. */
