@@ -846,8 +846,8 @@ public final class LogCluster {
     /** What a walk through a LOG finds; its rows are made once and used for many walks. */
     private static final class Survey {
         final int[] acked = new int[CLIENTS];
-        /** Whether the walk came by a RESULT or NOTE that has ACKED of the client. */
-        final boolean[] met = new boolean[CLIENTS];
+        /** Whether a RESULT anywhere, or a NOTE met already, has ACKED of the client. */
+        final boolean[] ackedKept = new boolean[CLIENTS];
         final int[] versions = new int[KEYS];
         final Part[] objects = new Part[KEYS];
         final Part[] results = new Part[CLIENTS * NUMBERS];
@@ -857,7 +857,7 @@ public final class LogCluster {
             greatestTold = 0;
             for (int i = 0; i < acked.length; i++) {
                 acked[i] = 1;
-                met[i] = false;
+                ackedKept[i] = false;
             }
             for (int i = 0; i < versions.length; i++) {
                 versions[i] = 0;
@@ -871,6 +871,10 @@ public final class LogCluster {
             }
             if (part.tellsAcked && part.acked > acked[part.client]) {
                 acked[part.client] = part.acked;
+                ackedKept[part.client] = false;
+            }
+            if (part.kind == RESULT && part.acked == acked[part.client]) {
+                ackedKept[part.client] = true;
             }
             if (part.marksVersion && part.version > versions[part.key]) {
                 versions[part.key] = part.version;
@@ -897,7 +901,7 @@ public final class LogCluster {
             }
         }
 
-        /** Asked of all PARTS in their order, for what was met ahead of a NOTE decides on it. */
+        /** Asked of all PARTS in their order, for of NOTES that are alike the first one is LIVE. */
         private boolean isLive(Part part) {
             if (part.kind == OBJECT) {
                 return part.version == versions[part.key];
@@ -905,13 +909,14 @@ public final class LogCluster {
             if (part.kind == TOMB) {
                 return part.home != null && !part.home.gone;
             }
-            if (!part.tellsAcked) {
+            if (part.kind == RESULT) {
+                return part.number >= acked[part.client];
+            }
+            if (part.kind != NOTE || part.acked != acked[part.client] || ackedKept[part.client]) {
                 return false;
             }
-            boolean hasAcked = part.acked == acked[part.client];
-            boolean first = hasAcked && !met[part.client];
-            met[part.client] |= hasAcked;
-            return part.kind == RESULT ? part.number >= acked[part.client] : first;
+            ackedKept[part.client] = true;
+            return true;
         }
 
         /** Reads a DEAD LOG from the copies at SERVERS that are UP. */

@@ -143,9 +143,10 @@ final class PlainModel {
             case RESULT: return p.number >= acked(all, p.client);
             case NOTE:
                 if (p.acked != acked(all, p.client)) return false;
-                for (int i = 0; i < at; i++) {
+                for (int i = 0; i < all.size(); i++) {
                     P q = all.get(i);
-                    if ((q.kind == Kind.RESULT || q.kind == Kind.NOTE) && q.client == p.client && q.acked == p.acked) return false;
+                    boolean counts = q.kind == Kind.RESULT || q.kind == Kind.NOTE && i < at;
+                    if (counts && q.client == p.client && q.acked == p.acked) return false;
                 }
                 return true;
             default: return false;

@@ -680,7 +680,7 @@ public final class PromisesTest {
         due("LIVE", x.segment(1, 0, 3), 5);
         due("ENTRIES", x.segment(2, 0, 1), 4);
         due("UNITS", x.segment(2, 0, 2), 5);
-        due("LIVE", x.segment(2, 0, 3), 4);
+        due("LIVE: the RESULT has ACKED, so the NOTE ahead of it is not", x.segment(2, 0, 3), 3);
         due("again(0, 1)", x.again(0, 1), 0);
         due("deliver", x.deliver(0), 0);
         due("STALE", ask(x, 0, 4), 5);
@@ -690,11 +690,71 @@ public final class PromisesTest {
         due("deliver", x.deliver(0), 4);
         answer(x, 0, 3, 0, 102, 3);
         due("no ENTRY", x.count(7), 9);
-        // the next RESULT has 4 as acked: the NOTE is not LIVE any more
+        // the next RESULT has 4 as acked: the one of number 3 is not LIVE any more
         due("WRITE", take(x, 0, WRITE, 33, 103, 0), 0);
         answer(x, 0, 4, 0, 103, 4);
         due("LIVE: two OBJECTS and a RESULT", x.segment(2, 0, 3), 5);
         due("not LIVE: DIGEST, NOTE, RESULT", x.server(2, 6), 3);
+    }
+
+    private static void noteBesideResultIsNotLive() {
+        part = "18 server, a NOTE beside a RESULT";
+        LogCluster x = new LogCluster(4, 2, 6, 5);
+        take(x, 0, WRITE, 8, 50, 0);
+        x.cut(1, 1);
+        x.send(0, WRITE, 8, 60, 0);
+        due("deliver", x.deliver(0), 3);
+        due("tick(3)", x.tick(3), 1);
+        due("ENTRIES: DIGEST, NOTE, OBJECT, RESULT", x.segment(0, 0, 1), 4);
+        due("LIVE: OBJECT, RESULT", x.segment(0, 0, 3), 3);
+        due("LIVE", x.server(0, 5), 3);
+        due("not LIVE", x.server(0, 6), 2);
+        due("ENTRIES: DIGEST, NOTE", x.segment(2, 0, 1), 2);
+        due("LIVE: a NOTE alone", x.segment(2, 0, 3), 1);
+        due("LIVE", x.server(2, 5), 1);
+        due("not LIVE", x.server(2, 6), 1);
+        for (int i = 0; i < 4; i++) {
+            due("WRITE", lose(x, 1, WRITE, 0, i, 0), 0);
+        }
+        due("CLEANINGS", x.count(3), 1);
+        due("SEGMENTS", x.server(0, 4), 3);
+        due("NAME of the packed one", x.segment(0, 1, 0), 7);
+        due("ENTRIES: three RESULTS and an OBJECT, no NOTE", x.segment(0, 1, 1), 4);
+        due("UNITS", x.segment(0, 1, 2), 5);
+        due("LIVE", x.segment(0, 1, 3), 5);
+        x.again(0, 2);
+        due("deliver", x.deliver(0), 0);
+        due("deliver", x.deliver(0), 4);
+        answer(x, 0, 2, 0, 60, 2);
+    }
+
+    private static void noteAloneOutlivesCleaning() {
+        part = "18 server, a NOTE alone";
+        LogCluster x = new LogCluster(4, 2, 6, 5);
+        x.send(0, WRITE, 8, 50, 0);
+        due("a late one", x.twice(0), 1);
+        due("deliver", x.deliver(0), 0);
+        due("deliver", x.deliver(0), 4);
+        // its RESULT goes to another SERVER than the NOTE of TABLET 0
+        due("WRITE", lose(x, 0, WRITE, 32, 60, 0), 0);
+        x.crash(0);
+        due("tick(3)", x.tick(3), 1);
+        due("LIVE: OBJECT, NOTE", x.server(1, 5), 3);
+        due("a later one", x.twice(1), 0);
+        due("deliver", x.deliver(0), 0);
+        due("STALE", ask(x, 0, 4), 5);
+        x.drop(0);
+        for (int i = 0; i < 4; i++) {
+            due("WRITE", lose(x, 1, WRITE, 9, i, 0), 0);
+        }
+        due("CLEANINGS", x.count(3), 1);
+        due("NAME of the packed one", x.segment(1, 1, 0), 6);
+        due("ENTRIES: two RESULTS, OBJECT, NOTE", x.segment(1, 1, 1), 4);
+        due("LIVE", x.segment(1, 1, 3), 5);
+        due("deliver", x.deliver(1), 0);
+        due("STALE: the RESULT is no more, but the NOTE is", ask(x, 1, 4), 5);
+        due("not done twice", x.peek(1, 8, 1), 1);
+        due("REQUESTS that took effect", x.count(11), 6);
     }
 
     private static void removedStaysRemoved() {
@@ -968,6 +1028,8 @@ public final class PromisesTest {
         deadLogWaitsForAHolder();
         mending();
         recoveryOfNotes();
+        noteBesideResultIsNotLive();
+        noteAloneOutlivesCleaning();
         removedStaysRemoved();
         sleeperWakesTooLate();
         cleaningPacks();
