@@ -1,60 +1,5 @@
-import java.util.NoSuchElementException;
-
 /** Each promise by hand: ordinary inputs, the edges that the document names, wrong inputs. */
-public final class PromisesTest {
-    private static final int THROWN = Integer.MIN_VALUE;
-    private static final int READ = 0;
-    private static final int WRITE = 1;
-    private static final int CHANGE = 2;
-    private static final int REMOVE = 3;
-
-    private static int wrong = 0;
-    private static int calls = 0;
-    private static String part = "";
-
-    private static void due(String call, int got, int want) {
-        calls++;
-        if (got != want) {
-            wrong++;
-            System.out.println(part + ": " + call + " answered " + got + ", due is " + want);
-        }
-    }
-
-    private static void due(String call, boolean got, boolean want) {
-        due(call, got ? 1 : 0, want ? 1 : 0);
-    }
-
-    private static int ask(LogCluster x, int place, int what) {
-        try {
-            return x.message(place, what);
-        } catch (NoSuchElementException e) {
-            return THROWN;
-        }
-    }
-
-    /** A REQUEST is sent and delivered, both at place 0; the STATUS of its ANSWER, which is taken or lost. */
-    private static int done(LogCluster x, boolean take, int client, int kind, int key, int a, int b) {
-        x.send(client, kind, key, a, b);
-        if (x.deliver(0) != 0) {
-            return THROWN;
-        }
-        int status = ask(x, 0, 4);
-        if (take) {
-            x.deliver(0);
-        } else {
-            x.drop(0);
-        }
-        return status;
-    }
-
-    private static int take(LogCluster x, int client, int kind, int key, int a, int b) {
-        return done(x, true, client, kind, key, a, b);
-    }
-
-    private static int lose(LogCluster x, int client, int kind, int key, int a, int b) {
-        return done(x, false, client, kind, key, a, b);
-    }
-
+public final class PromisesTest extends Check {
     // ---- promise 1
 
     private static void limitsOfANewObject() {
@@ -242,12 +187,6 @@ public final class PromisesTest {
         answer(x, 1, 4, 0, 54, 5);
         due("REQUESTS that took effect", x.count(11), 5);
         due("the other SERVERS' SAFE", x.server(1, 3), 0);
-    }
-
-    private static void answer(LogCluster x, int client, int number, int status, int value, int version) {
-        due("got(" + client + ", " + number + ", 0)", x.got(client, number, 0), status);
-        due("got(" + client + ", " + number + ", 1)", x.got(client, number, 1), value);
-        due("got(" + client + ", " + number + ", 2)", x.got(client, number, 2), version);
     }
 
     private static void onceAtMost() {
@@ -858,14 +797,6 @@ public final class PromisesTest {
         due("SEGMENTS beyond M", x.server(1, 4), 6);
     }
 
-    private static void segments(LogCluster x, int server, int... names) {
-        due("SEGMENTS", x.server(server, 4), names.length);
-        for (int i = 0; i < names.length; i++) {
-            due("NAME of " + i, x.segment(server, i, 0), names[i]);
-        }
-        due("behind the last", x.segment(server, names.length, 0), -1);
-    }
-
     private static void tombTellsWhereTheObjectIs() {
         part = "16 tick, TOMBS";
         LogCluster x = new LogCluster(4, 2, 6, 5);
@@ -1038,9 +969,6 @@ public final class PromisesTest {
         wrongQuestions();
         unitsOfALog();
         holdersByTheRing();
-        System.out.println(wrong == 0 ? calls + " answers are as due" : wrong + " answers are not as due");
-        if (wrong != 0) {
-            System.exit(1);
-        }
+        end();
     }
 }

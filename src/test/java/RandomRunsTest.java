@@ -6,6 +6,7 @@ public final class RandomRunsTest {
     private static final int RUNS = 500;
     private static final int CALLS = 512;
     private static final int THROWN = Integer.MIN_VALUE;
+    private static final int[] WILD = {Integer.MIN_VALUE, -1000000, -3, -2, -1, 0, 1, 2, 3, 4, 5, 1 << 20, Integer.MAX_VALUE};
     /** How often things that are rare befell, so that a change of the runs that loses one is seen. */
     private static final int[] SEEN = new int[12];
     private static final int[] DELIVERED = new int[8];
@@ -127,6 +128,34 @@ public final class RandomRunsTest {
         }
     }
 
+    private int wild() {
+        return random.nextBoolean() ? WILD[random.nextInt(WILD.length)] : random.nextInt(70) - 3;
+    }
+
+    /** Any call with arguments of any size. */
+    private void doWild() {
+        int a = wild();
+        int b = wild();
+        int c = wild();
+        String two = "(" + a + ", " + b + ")";
+        switch (random.nextInt(14)) {
+            case 0: same("send(" + a + ", " + b + ", " + c + ", " + a + ", " + b + ")", x.send(a, b, c, a, b), y.send(a, b, c, a, b)); break;
+            case 1: same("again" + two, x.again(a, b), y.again(a, b)); break;
+            case 2: same("deliver(" + a + ")", x.deliver(a), y.deliver(a)); break;
+            case 3: same("drop(" + a + ")", bit(x.drop(a)), bit(y.drop(a))); break;
+            case 4: same("twice(" + a + ")", x.twice(a), y.twice(a)); break;
+            case 5: same("message" + two, ask(x, a, b), ask(y, a, b)); break;
+            case 6: same("got(" + a + ", " + b + ", " + c + ")", x.got(a, b, c), y.got(a, b, c)); break;
+            case 7: same("cut" + two, bit(x.cut(a, b)), bit(y.cut(a, b))); break;
+            case 8: same("tick(" + a + ")", x.tick(a), y.tick(a)); break;
+            case 9: same("server" + two, x.server(a, b), y.server(a, b)); break;
+            case 10: same("segment(" + a + ", " + b + ", " + c + ")", x.segment(a, b, c), y.segment(a, b, c)); break;
+            case 11: same("peek(" + a + ", " + b + ", " + c + ")", x.peek(a, b, c), y.peek(a, b, c)); break;
+            case 12: same("owner(" + a + ")", x.owner(a), y.owner(a)); break;
+            default: same("count(" + a + ")", x.count(a), y.count(a));
+        }
+    }
+
     private static int ask(LogCluster c, int p, int w) {
         try {
             return c.message(p, w);
@@ -179,7 +208,9 @@ public final class RandomRunsTest {
     private boolean run() {
         for (int i = 0; i < CALLS && !wrong; i++) {
             int kind = random.nextInt(30);
-            if (kind < faults) {
+            if (random.nextInt(50) == 0) {
+                doWild();
+            } else if (kind < faults) {
                 doFault();
             } else if (kind < faults + 3) {
                 doNet();
