@@ -319,6 +319,67 @@ public final class TermsTest extends Check {
         units(x, 2, 1, 2, 13);
     }
 
+    private static void versionsNotPlaces() {
+        part = "LIVE is the OBJECT of a KEY with the greatest version, wherever it lies";
+        LogCluster x = new LogCluster(4, 2, 6, 5);
+        lose(x, 0, WRITE, 0, 10, 0);
+        lose(x, 2, REMOVE, 7, 0, 0);
+        lose(x, 1, REMOVE, 0, 0, 0);
+        take(x, 5, WRITE, 1, 11, 0);
+        take(x, 5, WRITE, 1, 12, 0);
+        lose(x, 3, WRITE, 0, 13, 0);
+        segments(x, 0, 0, 1, 2, 3);
+        segment(x, 0, 0, 3, 5, 2);
+        segment(x, 0, 1, 3, 6, 2);
+        segment(x, 0, 2, 2, 4, 3);
+        lose(x, 4, WRITE, 2, 14, 0);
+        segments(x, 0, 2, 3, 4, 5);
+        // two RESULTS, a TOMB and a RESULT lie behind the OBJECT by NAMES
+        segment(x, 0, 2, 4, 4, 3);
+        due("value", x.peek(0, 0, 0), 13);
+        due("version", x.peek(0, 0, 1), 5);
+        due("READ", take(x, 3, READ, 0, 0, 0), 0);
+        due("value", x.got(3, 2, 1), 13);
+        part = "There is a RESULT of that client and number in its LOG: first in a packed SEGMENT";
+        x.again(0, 1);
+        due("deliver", x.deliver(0), 0);
+        due("deliver", x.deliver(0), 4);
+        answer(x, 0, 1, 0, 10, 1);
+        due("effects", x.count(11), 6);
+    }
+
+    private static void ackedFirstInASegment() {
+        part = "ACKED of a client in a LOG is the greatest acked of its RESULTS: first in a packed SEGMENT";
+        LogCluster x = new LogCluster(4, 2, 6, 5);
+        x.send(0, WRITE, 0, 1, 0);
+        due("a late one", x.twice(0), 1);
+        x.deliver(0);
+        x.deliver(0);
+        lose(x, 0, REMOVE, 7, 0, 0);
+        take(x, 4, WRITE, 0, 9, 0);
+        lose(x, 2, WRITE, 2, 2, 0);
+        lose(x, 3, WRITE, 3, 3, 0);
+        segments(x, 0, 0, 1, 2, 3);
+        segment(x, 0, 0, 3, 5, 1);
+        segment(x, 0, 1, 2, 4, 3);
+        lose(x, 1, WRITE, 1, 1, 0);
+        segments(x, 0, 2, 3, 4, 5);
+        segment(x, 0, 2, 3, 4, 4);
+        due("number 1 with ACKED 1", x.deliver(1), 0);
+        due("STALE", ask(x, 1, 4), 5);
+        due("effects", x.count(11), 5);
+        part = "CLEANING of a packed SEGMENT: the first that is LIVE in it stays";
+        for (int i = 4; i <= 5; i++) {
+            lose(x, i, WRITE, i, i, 0);
+        }
+        segments(x, 0, 6, 7, 8, 9);
+        segment(x, 0, 2, 4, 6, 6);
+        due("again", x.again(0, 2), 0);
+        due("deliver", x.deliver(0), 0);
+        due("as the RESULT tells", ask(x, 0, 4), 1);
+        due("ENTRIES APPENDED", x.count(7), 8);
+    }
+
     // ---- part 2: RING, OPENING, CLEANING, APPEND
 
     private static void ringOfThree() {
@@ -581,6 +642,114 @@ public final class TermsTest extends Check {
         due("CLEANINGS", x.count(3), 1);
     }
 
+    private static void cleaningOfFullSegments() {
+        part = "CLEANING of SEGMENTS of Z ENTRIES";
+        LogCluster x = new LogCluster(4, 2, 6, 5);
+        for (int i = 0; i < 5; i++) {
+            lose(x, 0, REMOVE, 7, 0, 0);
+        }
+        for (int i = 0; i < 5; i++) {
+            lose(x, 1, REMOVE, 7, 0, 0);
+        }
+        for (int n = 1; n <= 4; n++) {
+            for (int c = 0; c < 2; c++) {
+                x.again(c, n);
+                x.deliver(0);
+                due("deliver", x.deliver(0), 4);
+            }
+        }
+        lose(x, 0, REMOVE, 7, 0, 0);
+        lose(x, 1, REMOVE, 7, 0, 0);
+        lose(x, 2, WRITE, 2, 5, 0);
+        segments(x, 0, 0, 1, 2);
+        segment(x, 0, 0, 6, 6, 1);
+        segment(x, 0, 1, 6, 6, 1);
+        lose(x, 3, WRITE, 3, 6, 0);
+        segments(x, 0, 0, 1, 2, 3);
+        lose(x, 4, WRITE, 4, 7, 0);
+        segments(x, 0, 2, 3, 4, 5);
+        segment(x, 0, 2, 2, 2, 2);
+        for (int c = 0; c < 2; c++) {
+            x.again(c, 5);
+            due("deliver", x.deliver(0), 0);
+            due("as the RESULT tells", ask(x, 0, 4), 1);
+            x.drop(0);
+        }
+        due("ENTRIES APPENDED", x.count(7), 15);
+        part = "CLEANING: one SEGMENT alone without LIVE UNITS goes";
+        x = new LogCluster(4, 2, 6, 5);
+        take(x, 0, WRITE, 0, 1, 0);
+        take(x, 0, WRITE, 0, 2, 0);
+        for (int i = 1; i <= 2; i++) {
+            lose(x, i, REMOVE, 7, 0, 0);
+        }
+        segment(x, 0, 1, 4, 6, 5);
+        for (int i = 1; i <= 2; i++) {
+            lose(x, i, WRITE, i, 3, 0);
+            lose(x, i, REMOVE, 7, 0, 0);
+        }
+        segments(x, 0, 0, 1, 2, 3);
+        segment(x, 0, 0, 2, 4, 0);
+        lose(x, 3, WRITE, 3, 4, 0);
+        segments(x, 0, 1, 2, 3, 4);
+        due("CLEANINGS that did something", x.count(3), 1);
+    }
+
+    /**
+     * SERVER 1 has the SEGMENTS 1 to 5 of five LIVE RESULTS each, SERVER 3 one with a version; as
+     * that is DEAD, SERVER 1 opens SEGMENT 7 for TABLET 7, of which there is nothing to APPEND.
+     */
+    private static LogCluster beyondMemory() {
+        LogCluster x = new LogCluster(4, 2, 6, 5);
+        lose(x, 5, WRITE, 24, 1, 0);
+        int[] clients = {7, 6, 6, 6};
+        for (int c = 0; c < clients.length; c++) {
+            for (int i = 0; i < clients[c]; i++) {
+                due("a RESULT alone", lose(x, c, REMOVE, 8, 0, 0), 1);
+            }
+        }
+        segments(x, 1, 1, 2, 3, 4, 5);
+        due("LIVE UNITS", x.server(1, 5), 25);
+        x.crash(3);
+        due("tick(3)", x.tick(3), 1);
+        due("owner(7)", x.owner(7), 1);
+        segments(x, 1, 1, 2, 3, 4, 5, 7);
+        segment(x, 1, 5, 1, 1, 0);
+        due("HEAD", x.server(1, 11), 7);
+        return x;
+    }
+
+    private static void opensBeyondMemory() {
+        part = "it OPENS a new HEAD: M is not asked in recoveries";
+        beyondMemory();
+    }
+
+    /** The latest one by OPENING is neither the HEAD any more nor of the greatest NAME. */
+    private static void latestIsNotTheGreatestName() {
+        part = "CLEANING: all SEGMENTS but the one opened latest by OPENING, packed ones being later";
+        LogCluster x = beyondMemory();
+        for (int n = 1; n <= 4; n++) {
+            x.again(0, n);
+            x.deliver(0);
+            due("deliver", x.deliver(0), 4);
+        }
+        due("a RESULT of ACKED 5", lose(x, 0, REMOVE, 8, 0, 0), 1);
+        segment(x, 1, 0, 6, 6, 1);
+        segment(x, 1, 1, 6, 6, 5);
+        segment(x, 1, 5, 2, 2, 1);
+        x.restart(3);
+        x.sleep(2);
+        due("M SEGMENTS behind CLEANING: refused", lose(x, 5, READ, 8, 0, 0), 4);
+        segments(x, 1, 3, 4, 5, 7, 8);
+        segment(x, 1, 4, 6, 6, 6);
+        due("HEAD", x.server(1, 11), -1);
+        due("CLEANINGS that did something", x.count(3), 1);
+        due("the same once more", lose(x, 5, READ, 8, 0, 0), 4);
+        segments(x, 1, 3, 4, 5, 7, 8);
+        due("CLEANINGS that did something", x.count(3), 1);
+        due("SEGMENTS opened ever", x.count(2), 9);
+    }
+
     private static void holderThatIsNotUp() {
         part = "To APPEND: if one of the HEAD's HOLDERS is not UP: OPENING";
         LogCluster x = new LogCluster(5, 2, 16, 5);
@@ -802,6 +971,39 @@ public final class TermsTest extends Check {
         due("tick(1)", x.tick(1), 1);
         due("DIGEST, NOTE, OBJECT, RESULTS", x.segment(0, 0, 1), 5);
         due("the NOTE is not LIVE", x.server(0, 5), 4);
+        part = "RESULTS have A as acked: of the LOG, by a NOTE there, if that is more";
+        x = new LogCluster(4, 2, 16, 5);
+        x.send(0, WRITE, 0, 1, 0);
+        due("a late one, with ACKED 1", x.send(0, REMOVE, 16, 0, 0), 2);
+        x.deliver(0);
+        due("deliver", x.deliver(0), 4);
+        due("RESULT 3 has 2", lose(x, 0, WRITE, 0, 2, 0), 0);
+        x.crash(0);
+        due("tick(3)", x.tick(3), 1);
+        segment(x, 2, 0, 2, 2, 1);
+        due("number 2", x.deliver(1), 0);
+        due("STATUS", ask(x, 1, 4), 1);
+        // the RESULT has 2, too, so that the NOTE is not LIVE any more
+        segment(x, 2, 0, 3, 3, 1);
+    }
+
+    private static void ackedOfTheirSending() {
+        part = "REQUESTS to a SERVER, with the ACKED of their sending, doubled ones too";
+        LogCluster x = new LogCluster(4, 2, 16, 5);
+        x.send(0, WRITE, 0, 1, 0);
+        due("twice", x.twice(0), 1);
+        x.deliver(0);
+        due("deliver", x.deliver(0), 4);
+        due("ACKED of now", x.acked(0), 2);
+        due("twice", x.twice(1), 0);
+        for (int i = 0; i < 2; i++) {
+            due("deliver", x.deliver(i), 0);
+            due("not STALE", ask(x, i, 4), 0);
+            due("deliver", x.deliver(i), 5);
+        }
+        due("again", x.again(0, 1), 0);
+        due("deliver", x.deliver(0), 0);
+        due("STALE", ask(x, 0, 4), 5);
     }
 
     private static void cutsOfOtherKinds() {
@@ -854,6 +1056,9 @@ public final class TermsTest extends Check {
         segment(x, 1, 0, 4, 5, 3);
         x.send(1, WRITE, 0, 3, 0);
         due("it goes DOWN with it", x.deliver(0), 3);
+        x.restart(0);
+        due("tick(3)", x.tick(3), 1);
+        due("what was recovered came to all HOLDERS", x.peek(x.owner(0), 0, 0), 2);
     }
 
     private static void cutThatOpens() {
@@ -1037,6 +1242,34 @@ public final class TermsTest extends Check {
         due("HOLDERS", x.segment(0, 1, 4), 4);
     }
 
+    private static void mendsByTheRing() {
+        part = "MENDING: the first of its RING that is UP and none of the HOLDERS is a HOLDER too";
+        for (int first = 1; first <= 3; first++) {
+            LogCluster x = new LogCluster(5, 2, 16, 5);
+            x.sleep(first);
+            take(x, 0, WRITE, 0, 1, 0);
+            x.wake(first);
+            // NAME 0: 1, 2, 3, 4; the HOLDERS are the first two but the one that slept
+            int gone = first == 1 ? 3 : first == 2 ? 3 : 2;
+            x.sleep(gone);
+            due("tick(1)", x.tick(1), 0);
+            due("MENDINGS", x.count(10), 1);
+            due("copies at 1", x.server(1, 8), 1);
+            due("copies at 2", x.server(2, 8), 1);
+            due("copies at 3", x.server(3, 8), 1);
+            due("copies at 4", x.server(4, 8), 0);
+        }
+        LogCluster x = new LogCluster(5, 2, 16, 5);
+        x.sleep(3);
+        take(x, 0, WRITE, 8, 1, 0);
+        x.wake(3);
+        // NAME 0 of SERVER 1: 3, 4, 0, 2; the HOLDERS are 4 and 0
+        x.sleep(4);
+        due("tick(1)", x.tick(1), 0);
+        due("copies at 3", x.server(3, 8), 1);
+        due("copies at 2", x.server(2, 8), 0);
+    }
+
     private static void mendedHasAll() {
         part = "MENDING: a HOLDER too, of all ENTRIES";
         LogCluster x = new LogCluster(6, 2, 16, 5);
@@ -1210,6 +1443,49 @@ public final class TermsTest extends Check {
         answer(x, 1, 1, 0, 7, 2);
     }
 
+    private static void deadLogsReadApart() {
+        part = "the greatest version and SAFE, and ACKED, told in the DEAD LOG, not in one ahead of it";
+        LogCluster x = new LogCluster(8, 2, 16, 5);
+        take(x, 0, WRITE, 0, 1, 0);
+        take(x, 0, WRITE, 0, 2, 0);
+        lose(x, 0, WRITE, 0, 3, 0);
+        lose(x, 1, WRITE, 8, 4, 0);
+        x.crash(0);
+        x.crash(1);
+        due("tick(3)", x.tick(3), 2);
+        owners(x, 2, 3, 2, 3, 4, 5, 6, 7);
+        due("SAFE", x.server(2, 3), 3);
+        // DIGEST, NOTE, OBJECT, RESULT
+        segment(x, 2, 0, 4, 5, 3);
+        due("SAFE", x.server(3, 3), 1);
+        // DIGEST, OBJECT, RESULT
+        segment(x, 3, 0, 3, 4, 3);
+    }
+
+    private static void deadLogOfThePast() {
+        part = "the OBJECTS of this TABLET in the DEAD LOG, not in one ahead of it";
+        LogCluster x = new LogCluster(4, 2, 6, 5);
+        take(x, 0, WRITE, 0, 1, 0);
+        x.crash(0);
+        x.restart(0);
+        due("tick(1)", x.tick(1), 1);
+        due("peek", x.peek(0, 0, 0), 1);
+        // a RESULT alone, so that the TOMB does not fit beside its OBJECT
+        take(x, 0, REMOVE, 7, 0, 0);
+        take(x, 0, REMOVE, 0, 0, 0);
+        // the SEGMENTS of the OBJECT and of its TOMB come to be without LIVE UNITS, and go
+        for (int i = 0; i < 9; i++) {
+            take(x, 0, WRITE, 1, i, 0);
+        }
+        due("CLEANINGS", x.count(3) >= 2, true);
+        due("the TOMB is no more: OBJECT and RESULT alone are LIVE", x.server(0, 5), 3);
+        x.crash(0);
+        x.restart(0);
+        due("tick(1)", x.tick(1), 1);
+        due("the removed one", x.peek(0, 0, 0), -1);
+        due("the other one", x.peek(0, 1, 0), 8);
+    }
+
     private static void notesIfAbove() {
         part = "for each client whose ACKED in the DEAD LOG is above that in its LOG a NOTE";
         LogCluster x = new LogCluster(4, 2, 16, 5);
@@ -1285,6 +1561,26 @@ public final class TermsTest extends Check {
         due("effects", x.count(11), 3);
     }
 
+    private static void resultOfTheLastNumber() {
+        part = "the RESULTS .. by clients, then numbers: client 5, number 40";
+        LogCluster x = new LogCluster(4, 2, 16, 5);
+        for (int i = 0; i < 39; i++) {
+            take(x, 5, READ, 0, 0, 0);
+        }
+        lose(x, 5, WRITE, 7, 70, 0);
+        due("LIVE UNITS", x.server(0, 5), 3);
+        x.crash(0);
+        due("tick(3)", x.tick(3), 1);
+        // DIGEST, NOTE, OBJECT, RESULT
+        segment(x, 1, 0, 4, 5, 3);
+        x.again(5, 40);
+        due("deliver", x.deliver(0), 0);
+        due("deliver", x.deliver(0), 4);
+        answer(x, 5, 40, 0, 70, 1);
+        due("effects", x.count(11), 1);
+        due("ACKED", x.acked(5), 41);
+    }
+
     private static void resultsByNumbers() {
         part = "the RESULTS .. by clients, then numbers";
         LogCluster x = new LogCluster(4, 2, 6, 5);
@@ -1314,6 +1610,8 @@ public final class TermsTest extends Check {
         x.crash(0);
         x.restart(0);
         due("tick(1)", x.tick(1), 1);
+        segment(x, 0, 0, 6, 6, 5);
+        segment(x, 0, 1, 2, 2, 1);
         x.again(1, 1);
         x.deliver(0);
         due("the answer of client 1", x.deliver(0), 4);
@@ -1399,6 +1697,8 @@ public final class TermsTest extends Check {
         liveTombs();
         liveResults();
         liveNotes();
+        versionsNotPlaces();
+        ackedFirstInASegment();
         ringOfThree();
         openingNeedsOthers();
         refusedOpeningLeavesTheHead();
@@ -1411,6 +1711,9 @@ public final class TermsTest extends Check {
         cleaningOfThree();
         cleaningWithoutPacking();
         liveAheadOfCleaning();
+        cleaningOfFullSegments();
+        opensBeyondMemory();
+        latestIsNotTheGreatestName();
         holderThatIsNotUp();
         refusedIsNothing();
         numbersToForty();
@@ -1421,6 +1724,7 @@ public final class TermsTest extends Check {
         readNeedsNoRoom();
         staleByTheLog();
         resultsHaveA();
+        ackedOfTheirSending();
         cutsOfOtherKinds();
         cutsAreNotForRecoveries();
         cutThatOpens();
@@ -1432,6 +1736,7 @@ public final class TermsTest extends Check {
         sleepersDoNothing();
         eachMendsOne();
         mendsWhatCanBe();
+        mendsByTheRing();
         mendedHasAll();
         missesOfThree();
         missesAreTheCoordinators();
@@ -1441,9 +1746,12 @@ public final class TermsTest extends Check {
         ownersOfTheFewest();
         safeOfANewOwner();
         safeByADigest();
+        deadLogsReadApart();
+        deadLogOfThePast();
         notesIfAbove();
         notesOfAllClients();
         resultsFromAckedOn();
+        resultOfTheLastNumber();
         resultsByNumbers();
         objectsByKeys();
         objectsOfTheGreatestVersion();
