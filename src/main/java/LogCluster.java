@@ -272,7 +272,7 @@ public final class LogCluster {
             case 7:
                 return unitsOf(asked.log, what);
             case 8:
-                return keeper.copiesAt(server);
+                return keeper.copiesOnDisk(server);
             case 9:
                 return asked.cutAt;
             case 10:
@@ -1213,7 +1213,7 @@ public final class LogCluster {
             forgotten++;
         }
 
-        int copiesAt(int server) {
+        int copiesOnDisk(int server) {
             int total = 0;
             for (int i = 0; i < storage.servers.length; i++) {
                 Server other = storage.servers[i];

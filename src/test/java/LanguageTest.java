@@ -6,7 +6,9 @@ import java.nio.file.Files;
 import java.nio.file.Path;
 import java.util.ArrayList;
 import java.util.List;
+import java.util.Map;
 import java.util.Set;
+import java.util.TreeMap;
 import java.util.TreeSet;
 import java.util.regex.Matcher;
 import java.util.regex.Pattern;
@@ -24,6 +26,7 @@ public final class LanguageTest {
         "\\bvar\\b", "\\bSystem\\b", "\\bObject\\b", "\\bThread\\b", "\\.toString\\b", "\\.hashCode\\b", "\\.equals\\b",
         "\\w+Exact\\b", "\\bnew ArrayList<>\\([^)]", "\\blong\\b", "\\bdouble\\b", "\\bfloat\\b"};
     private static final int LONGEST_METHOD = 60;
+    private static final int DEEPEST = 8;
 
     private static int wrong = 0;
 
@@ -111,21 +114,61 @@ public final class LanguageTest {
         for (int i = 0; i < text.length(); i++) {
             due("plain characters", text.charAt(i) < 128);
         }
-        methodLengths(text.split("\n"));
+        Map<String, List<String>> methods = methods(code.split("\n"));
+        methodLengths(methods);
+        callDepth(methods);
     }
 
-    private static void methodLengths(String[] lines) {
+    /** The lines of each method and constructor by its name; names are used once, so that a call's name tells the method. */
+    private static Map<String, List<String>> methods(String[] lines) {
+        Map<String, List<String>> found = new TreeMap<>();
         for (int i = 0; i < lines.length; i++) {
-            Matcher head = Pattern.compile("^( +)[\\w<>\\[\\] ]+\\([^;]*\\{$").matcher(lines[i]);
-            if (!head.find() || lines[i].trim().matches("(if|for|while|switch|else).*")) {
+            Matcher head = Pattern.compile("^( +)[\\w<>\\[\\] ]*?(\\w+)\\([^;]*\\{$").matcher(lines[i]);
+            if (!head.find() || lines[i].trim().matches("(if|for|while|switch|else|\\}).*")) {
                 continue;
             }
             int end = i;
             while (end < lines.length && !lines[end].equals(head.group(1) + "}")) {
                 end++;
             }
-            due("a short method: " + lines[i].trim(), end - i < LONGEST_METHOD);
+            List<String> body = List.of(lines).subList(i + 1, Math.min(end, lines.length));
+            due("a name of its own: " + lines[i].trim(), found.put(head.group(2), body) == null);
         }
+        return found;
+    }
+
+    private static void methodLengths(Map<String, List<String>> methods) {
+        methods.forEach((name, body) -> due("a short method: " + name, body.size() < LONGEST_METHOD - 1));
+    }
+
+    /** No recursion, and calls go at most eight deep. */
+    private static void callDepth(Map<String, List<String>> methods) {
+        int declared = LogCluster.class.getDeclaredMethods().length;
+        for (Class<?> c : LogCluster.class.getDeclaredClasses()) {
+            declared += c.getDeclaredMethods().length;
+        }
+        long found = methods.keySet().stream().filter(name -> Character.isLowerCase(name.charAt(0))).count();
+        due("all " + declared + " methods were found, not " + found, found == declared);
+        for (String name : methods.keySet()) {
+            String deepest = deepestFrom(name, methods, "");
+            due("at most eight deep: " + deepest, deepest.split(" ").length <= DEEPEST);
+        }
+    }
+
+    private static String deepestFrom(String name, Map<String, List<String>> methods, String open) {
+        String deepest = name;
+        if (open.contains(" " + name + " ") || open.length() > 1000) {
+            due("no recursion of " + name, false);
+            return deepest;
+        }
+        Matcher m = Pattern.compile("(\\w+)(?:<>)?\\(").matcher(String.join("\n", methods.get(name)));
+        while (m.find()) {
+            if (methods.containsKey(m.group(1))) {
+                String below = name + " " + deepestFrom(m.group(1), methods, open + " " + name + " ");
+                deepest = below.split(" ").length > deepest.split(" ").length ? below : deepest;
+            }
+        }
+        return deepest;
     }
 
     public static void main(String[] args) throws Exception {
